@@ -531,7 +531,9 @@ public final class TideFares {
         void forget(int ferry) {
             int left = numbers[FERRY_COUNT] - 1;
             int at = FERRIES_AT + ferry * FERRY_NUMBERS;
-            System.arraycopy(numbers, at + FERRY_NUMBERS, numbers, at, (left - ferry) * FERRY_NUMBERS);
+            if (ferry < left) {
+                System.arraycopy(numbers, at + FERRY_NUMBERS, numbers, at, (left - ferry) * FERRY_NUMBERS);
+            }
             numbers[FERRY_COUNT] = left;
         }
 

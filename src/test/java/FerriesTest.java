@@ -81,8 +81,10 @@ public final class FerriesTest {
     private static void drop() {
         TideFares x = Checks.with("ab@0/1+1$0;bc@1/2+3$4^;cd@2/3+4$5_");
         x.clock(2, 17);
+        x.clock(0, 3);
         x.place(0, 2, 0, 50);
         x.take(0, 2);
+        x.take(1, 0);
         Checks.due("drop(1)", 2, x.drop(1));
         Checks.due("drop: count(0)", 2, x.count(0));
         int[] moved = {2, 3, 2, 3, 4, 5, 2, 17, 1};
@@ -93,7 +95,7 @@ public final class FerriesTest {
         Checks.noIndex(x, "drop(2) of two", () -> x.drop(2));
         Checks.noIndex(x, "drop(-1)", () -> x.drop(-1));
         Checks.due("drop(1), the last one", 1, x.drop(1));
-        Checks.due("drop: what was taken stays counted", 1, x.count(1));
+        Checks.due("drop: what was taken stays counted", 2, x.count(1));
         Checks.due("drop(0), the only one", 0, x.drop(0));
         Checks.noIndex(x, "drop(0) of none", () -> x.drop(0));
         Checks.due("ferry behind drops", 0, x.ferry(0, 1, 0, 1, 1, 1));
@@ -104,6 +106,11 @@ public final class FerriesTest {
         for (int ferry = 0; ferry < 14; ferry++) {
             full.ferry(0, 1, ferry, 1, 1, ferry);
         }
+        Checks.due("drop(7) of 14", 13, full.drop(7));
+        for (int ferry = 0; ferry < 13; ferry++) {
+            Checks.due("drop(7) of 14: ferryOf(" + ferry + ", 2)", ferry < 7 ? ferry : ferry + 1, full.ferryOf(ferry, 2));
+        }
+        full.undo();
         Checks.due("drop(0) of 14", 13, full.drop(0));
         Checks.due("drop(0) of 14: the last one", 13, full.ferryOf(12, 2));
         Checks.noIndex(full, "ferryOf(13, 0) of 13", () -> full.ferryOf(13, 0));

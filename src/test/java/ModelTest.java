@@ -1,6 +1,7 @@
 /** All promises: runs of calls by a counter that is scrambled, on the class and on the plain model alike. */
 public final class ModelTest {
-    private static final int RUNS = 150;
+    private static final int RUNS = 100;
+    private static final int WAYS_RUNS = 60;
     private static final int CALLS = 512;
 
     private static long seed;
@@ -192,7 +193,7 @@ public final class ModelTest {
         same(run, "cheapest(" + from + ", " + to + ", " + minute + ", " + limit + ")",
                 () -> made.cheapest(from, to, minute, limit), () -> model.cheapest(from, to, minute, limit));
         same(run, "reach(" + traveller + ")", () -> made.reach(traveller), () -> model.reach(traveller));
-        if (pick(0, 30) == 0) {
+        if (pick(0, 20) == 0) {
             same(run, "lastStart(" + from + ", " + to + ", " + limit + ")", () -> made.lastStart(from, to, limit),
                     () -> model.lastStart(from, to, limit));
         }
@@ -202,7 +203,47 @@ public final class ModelTest {
         }
     }
 
+    /** Many ferries of one style, and the ways by them. */
+    private static void waysRun(int run) {
+        int most = pick(0, 14);
+        int style = run % 4;
+        for (int told = 0; told < most; told++) {
+            int number = told;
+            int from = style == 1 ? told % 8 : pick(0, 7);
+            int to = (from + (style == 1 ? 1 : pick(1, 7))) % 8;
+            int first = pick(0, 199);
+            int interval = pick(1, style == 2 ? 12 : 199);
+            int needs = pick(1, 99);
+            int fare = pick(0, style == 3 ? 3 : 99);
+            int kind = pick(0, 2);
+            int fast = pick(0, 59);
+            same(run, "ferry(..)", () -> made.ferry(from, to, first, interval, needs, fare),
+                    () -> model.ferry(from, to, first, interval, needs, fare));
+            same(run, "kind(..)", () -> made.kind(number, kind), () -> model.kind(number, kind));
+            same(run, "clock(..)", () -> made.clock(number, fast), () -> model.clock(number, fast));
+        }
+        int tide = pick(0, 719);
+        int dear = pick(0, 60);
+        same(run, "set(0, " + tide + ")", () -> made.set(0, tide), () -> model.set(0, tide));
+        same(run, "set(1, " + dear + ")", () -> made.set(1, dear), () -> model.set(1, dear));
+        for (int asked = 0; asked < 60; asked++) {
+            ways(run);
+            int traveller = pick(0, 3);
+            int island = pick(0, 7);
+            int minute = pick(0, asked % 2 == 0 ? 1439 : 200);
+            int purse = pick(0, 300);
+            same(run, "place(..)", () -> made.place(traveller, island, minute, purse),
+                    () -> model.place(traveller, island, minute, purse));
+        }
+    }
+
     public static void main(String[] args) {
+        for (int run = 0; run < WAYS_RUNS; run++) {
+            seed = run * 104729L + 5;
+            made = new TideFares();
+            model = new PlainModel();
+            waysRun(run);
+        }
         for (int run = 0; run < RUNS; run++) {
             seed = run * 7919L + 17;
             made = new TideFares();

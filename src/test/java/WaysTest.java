@@ -4,10 +4,13 @@ public final class WaysTest {
         soonest();
         cheapest();
         cheapestWaits();
+        cheapestAtOnce();
+        longWays();
         reach();
         lastStart();
         joined();
         digest();
+        digestByTheMinute();
         digestOfBuffer();
         Checks.end("WaysTest");
     }
@@ -76,6 +79,45 @@ public final class WaysTest {
         Checks.due("cheapest: a minute too late, by 299", 2, missed.cheapest(0, 2, 1, 299));
     }
 
+    private static void cheapestAtOnce() {
+        TideFares x = Checks.with("ab@0/1+1$5");
+        Checks.due("cheapest: a minute's wait, by 30", 10, x.cheapest(0, 1, 29, 30));
+        Checks.due("cheapest: a minute's wait, by 31", 5, x.cheapest(0, 1, 29, 31));
+        Checks.due("cheapest: at 59", 5, x.cheapest(0, 1, 59, 60));
+        Checks.due("cheapest: at 60", 10, x.cheapest(0, 1, 60, 90));
+        Checks.due("cheapest: at 60, by 91", 5, x.cheapest(0, 1, 60, 91));
+        TideFares two = Checks.with("ba@0/199+5$3;ba@0/199+5$9;ba@0/199+5$4");
+        Checks.due("cheapest: of three that come together", 6, two.cheapest(1, 0, 0, 5));
+        Checks.due("cheapest: later on", 3, two.cheapest(1, 0, 100, 1539));
+        Checks.due("cheapest: as at first", 6, two.cheapest(1, 0, 0, 5));
+        two.set(1, 60);
+        Checks.due("cheapest: always dear", 6, two.cheapest(1, 0, 0, 1539));
+        two.set(1, 1);
+        two.clock(0, 1);
+        Checks.due("cheapest: dear in one minute of the hour", 3, two.cheapest(1, 0, 0, 5));
+    }
+
+    /** A way of seven ferries, told from its beginning on and from its end on. */
+    private static void longWays() {
+        for (int order = 0; order < 2; order++) {
+            TideFares x = new TideFares();
+            for (int ferry = 0; ferry < 7; ferry++) {
+                int from = order == 0 ? ferry : 6 - ferry;
+                x.ferry(from, from + 1, from, 10, 1, 1);
+            }
+            Checks.due("seven ferries: soonest", 7, x.soonest(0, 7, 0));
+            Checks.due("seven ferries: soonest a minute later", 17, x.soonest(0, 7, 1));
+            Checks.due("seven ferries: cheapest in the dear half hour", 14, x.cheapest(0, 7, 0, 30));
+            Checks.due("seven ferries: cheapest", 7, x.cheapest(0, 7, 0, 37));
+            Checks.due("seven ferries: lastStart by 17", 10, x.lastStart(0, 7, 17));
+            Checks.due("seven ferries: lastStart by 16", 0, x.lastStart(0, 7, 16));
+            Checks.due("seven ferries: lastStart by 6", -1, x.lastStart(0, 7, 6));
+            Checks.due("seven ferries: reach", 255, x.reach(0));
+            Checks.dueShare("seven ferries: joined", 28.0 / 56.0, x.joined());
+            Checks.due("seven ferries: digest", listed(x, ""), x.digest());
+        }
+    }
+
     private static void reach() {
         TideFares x = Checks.with("ab@0/10+5$10;bc@0/10+5$10;cd@0/10+5$10_");
         Checks.due("reach(0) with 50", 15, x.reach(0));
@@ -124,6 +166,18 @@ public final class WaysTest {
         Checks.noArgument(x, "lastStart(2, 2, ..)", () -> x.lastStart(2, 2, 100));
         Checks.noArgument(x, "lastStart(.., -1)", () -> x.lastStart(0, 1, -1));
         Checks.noArgument(x, "lastStart(.., 1540)", () -> x.lastStart(0, 1, 1540));
+        TideFares tides = Checks.with("ab@0/1+1$0^;bc@0/1+1$0_;cd@5/199+1$0_");
+        Checks.due("lastStart by high tide alone", 359, tides.lastStart(0, 1, 700));
+        Checks.due("lastStart by high tide alone: 360", 359, tides.lastStart(0, 1, 360));
+        Checks.due("lastStart by high tide alone: 359", 358, tides.lastStart(0, 1, 359));
+        Checks.due("lastStart by high tide alone: 721", 720, tides.lastStart(0, 1, 721));
+        Checks.due("lastStart by low tide alone", 719, tides.lastStart(1, 2, 1000));
+        Checks.due("lastStart by low tide alone: none by 360", -1, tides.lastStart(1, 2, 360));
+        Checks.due("lastStart by low tide alone: 361", 360, tides.lastStart(1, 2, 361));
+        Checks.due("lastStart by low tide alone: none by 206", -1, tides.lastStart(2, 3, 206));
+        Checks.due("lastStart by both tides", 359, tides.lastStart(0, 2, 1080));
+        tides.set(0, 1);
+        Checks.due("lastStart by tides a minute ahead", 358, tides.lastStart(0, 1, 700));
         TideFares each = Checks.with("ab@0/1+1$0");
         Checks.due("lastStart: the last minute of all", 1439, each.lastStart(0, 1, 1440));
         Checks.due("lastStart: the minute 0", 0, each.lastStart(0, 1, 1));
@@ -146,8 +200,32 @@ public final class WaysTest {
         Checks.dueShare("joined: by tides", 6.0 / 56.0, late.joined());
         late.set(0, 360);
         Checks.dueShare("joined: by tides the other way round", 6.0 / 56.0, late.joined());
+        TideFares atFirst = Checks.with("ab@0/199+1$9^;bc@1/199+1$9_;cd@0/199+1$9^;de@0/199+1$9_");
+        atFirst.set(0, 359);
+        Checks.dueShare("joined: e can be had from a by the ferry at 0 alone", 10.0 / 56.0, atFirst.joined());
         TideFares missed = Checks.with("ab@0/199+1$9_;bc@0/199+1$9^;cd@0/199+1$9_;de@0/199+1$9^");
         Checks.dueShare("joined: e is missed from a alone", 9.0 / 56.0, missed.joined());
+    }
+
+    /** Ferries that tell 59, 60 and 61 apart, and 29 to 31, 399 to 401, 599 to 601. */
+    private static void digestByTheMinute() {
+        TideFares x = Checks.with("ab@0/1+1$1;ac@30/199+1$5;ad@29/199+1$5");
+        Checks.type(x, "ae@1/100+99$5;af@2/100+99$5");
+        x.ferries();
+        int[] clocks = {0, 15, 16, 45, 44};
+        for (int ferry = 0; ferry < 5; ferry++) {
+            x.clock(ferry, clocks[ferry]);
+        }
+        x.set(1, 45);
+        int[] cheapest = {1, 5, 10, 5, 10};
+        for (int island = 1; island < 6; island++) {
+            Checks.due("cheapest(0, " + island + ", 30, 400)", cheapest[island - 1], x.cheapest(0, island, 30, 400));
+        }
+        Checks.due("digest by the minute", listed(x, ""), x.digest());
+        x.set(1, 1);
+        Checks.due("digest: dear at 60 alone", listed(x, ""), x.digest());
+        x.clock(0, 59);
+        Checks.due("digest: dear at 61 alone", listed(x, ""), x.digest());
     }
 
     private static long mix(long hash, long value) {
