@@ -744,7 +744,7 @@ public final class TideFares {
         private void letCome(Sea sea, int now) {
             int slot = now % SLOTS;
             for (int island = 0; island < ISLANDS; island++) {
-                if ((comers[slot] & 1 << island) != 0) {
+                if ((comers[slot] & (1 << island)) != 0) {
                     comeTo(sea, island, now, comersFares[slot * ISLANDS + island]);
                 }
             }
@@ -783,7 +783,7 @@ public final class TideFares {
         private void expect(int island, int minute, int coins) {
             int slot = minute % SLOTS;
             int at = slot * ISLANDS + island;
-            if ((comers[slot] & 1 << island) == 0 || coins < comersFares[at]) {
+            if ((comers[slot] & (1 << island)) == 0 || coins < comersFares[at]) {
                 comers[slot] |= 1 << island;
                 comersFares[at] = coins;
             }

@@ -95,9 +95,12 @@ public final class TextsTest {
         Checks.due("ferries: the fifth", 5, x.ferryOf(5, 1));
         Checks.due("ferries: the kind of the fifth", 2, x.ferryOf(5, 6));
         Checks.due("ferries: the kind of the fourth", 0, x.ferryOf(4, 6));
-        Checks.type(x, "ab@0/1+1$0");
+        Checks.type(x, "ab@0/1+1$0^");
         Checks.due("ferries: one more", 7, x.ferries());
-        Checks.due("ferries: its kind is not that of an earlier text", 0, x.ferryOf(6, 6));
+        Checks.type(x, "ab@0/1+1$0");
+        Checks.due("ferries: another one", 8, x.ferries());
+        Checks.due("ferries: the kind of the one", 1, x.ferryOf(6, 6));
+        Checks.due("ferries: the kind of the other one", 0, x.ferryOf(7, 6));
     }
 
     private static void ferriesRefused() {

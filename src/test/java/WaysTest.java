@@ -90,6 +90,15 @@ public final class WaysTest {
         Checks.due("cheapest: of three that come together", 6, two.cheapest(1, 0, 0, 5));
         Checks.due("cheapest: later on", 3, two.cheapest(1, 0, 100, 1539));
         Checks.due("cheapest: as at first", 6, two.cheapest(1, 0, 0, 5));
+        TideFares late = Checks.with("ab@10/30+20$5");
+        Checks.due("cheapest: too short a time", -1, late.cheapest(0, 1, 0, 5));
+        Checks.due("cheapest: behind a search that ended early", 5, late.cheapest(0, 1, 11, 1539));
+        TideFares many = Checks.with("ab@0/1+1$5");
+        for (int ferry = 1; ferry < 14; ferry++) {
+            many.ferry(2, 3, 0, 1, 1, 1);
+        }
+        many.set(1, 1);
+        Checks.due("cheapest of 14: dear in one minute of the hour", 5, many.cheapest(0, 1, 60, 62));
         two.set(1, 60);
         Checks.due("cheapest: always dear", 6, two.cheapest(1, 0, 0, 1539));
         two.set(1, 1);
