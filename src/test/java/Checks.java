@@ -6,8 +6,14 @@ final class Checks {
 
     private static int made = 0;
     private static int wrong = 0;
+    // The sentence that the checks hold from here on; none, if it is empty.
+    private static String held = "";
 
     private Checks() {
+    }
+
+    static void hold(String sentence) {
+        held = sentence;
     }
 
     static void due(String call, long want, long got) {
@@ -62,18 +68,20 @@ final class Checks {
         }
     }
 
-    /** An object with the ferries that this text tells. */
-    static TideFares with(String text) {
+    /** An object with the ferries that these texts tell. */
+    static TideFares with(String... texts) {
         TideFares x = new TideFares();
-        type(x, text);
-        x.ferries();
+        for (String text : texts) {
+            type(x, text);
+            x.ferries();
+        }
         return x;
     }
 
     private static void fail(String what) {
         wrong++;
         if (wrong <= 40) {
-            System.out.println("  " + what);
+            System.out.println("  " + what + (held.isEmpty() ? "" : " [" + held + "]"));
         }
     }
 

@@ -242,7 +242,7 @@ public final class WaysTest {
     }
 
     /** The digest as the document lists it, from what the other calls answer. */
-    private static long listed(TideFares x, String buffer) {
+    static long listed(TideFares x, String buffer) {
         long hash = 3301;
         for (int what = 0; what < 5; what++) {
             hash = mix(hash, x.count(what));
