@@ -90,20 +90,18 @@ final class WayEdges {
             Edge.due("it is had at 40: " + order, 41, x.soonest(0, 2, 0));
             Edge.due("it is missed from 11 on: " + order, 240, x.soonest(0, 2, 11));
         }
-        int[] steps = {1, 3, 5, 7};
-        for (int step : steps) {
+        String[] told = {"0123456", "6543210", "3641520", "1350246"};
+        for (String islands : told) {
             TideFares x = new TideFares();
-            for (int told = 1; told <= 7; told++) {
-                int from = told * step % 8;
-                if (from < 7) {
-                    x.ferry(from, from + 1, from, 10, 1, 1);
-                }
+            for (char island : islands.toCharArray()) {
+                int from = island - '0';
+                x.ferry(from, from + 1, from, 10, 1, 1);
             }
-            x.ferry(0, 1, 0, 10, 1, 1);
-            Edge.due("seven ferries, step " + step, 7, x.soonest(0, 7, 0));
-            Edge.due("seven ferries a minute later, step " + step, 17, x.soonest(0, 7, 1));
-            Edge.due("seven ferries, cheapest, step " + step, 14, x.cheapest(0, 7, 0, 36));
-            Edge.due("seven ferries, the last start, step " + step, 0, x.lastStart(0, 7, 16));
+            Edge.due("seven ferries, told as " + islands, 7, x.soonest(0, 7, 0));
+            Edge.due("seven ferries a minute later, told as " + islands, 17, x.soonest(0, 7, 1));
+            Edge.due("seven ferries, cheapest, told as " + islands, 14, x.cheapest(0, 7, 0, 36));
+            Edge.due("seven ferries, the last start, told as " + islands, 0, x.lastStart(0, 7, 16));
+            Checks.dueShare("seven ferries, joined, told as " + islands, 28.0 / 56.0, x.joined());
         }
     }
 
@@ -472,8 +470,10 @@ final class WayEdges {
         Checks.dueShare("each tide once", 15.0 / 56.0, chain.joined());
         chain.kind(4, 1);
         Checks.dueShare("there is no third high tide: f from c, d and e alone", 13.0 / 56.0, chain.joined());
-        TideFares last = Checks.with("ab@0/199+99$0;bc@199/199+99$0");
-        Checks.dueShare("missed at 99, had at 199", 3.0 / 56.0, last.joined());
+        chain.set(0, 359);
+        Checks.dueShare("five tides: f can be had from a by the ferry at 0 alone", 15.0 / 56.0, chain.joined());
+        chain.set(0, 360);
+        Checks.dueShare("four tides: neither e nor f can be had from a", 13.0 / 56.0, chain.joined());
         TideFares dear = Checks.with("ab@0/1+1$99");
         dear.place(0, 0, 1439, 0);
         Checks.dueShare("neither purses nor the minutes of travellers matter", 1.0 / 56.0, dear.joined());
@@ -537,15 +537,20 @@ final class WayEdges {
         Edge.due("a traveller at 1538, and an empty purse", WaysTest.listed(late, ""), late.digest());
     }
 
+    /** The first ferry is dear in this minute alone of an hour. */
+    private static void dearAt(TideFares x, int minute) {
+        x.set(1, 1);
+        x.clock(0, (60 - minute % 60) % 60);
+    }
+
     /** Ferries that tell 59, 60 and 61 apart, and 29 to 31, 399 to 401, 599 to 601. */
     private static void digestByTheMinute() {
         Document.says("Promise 27", "leaves at 60, and costs at 60;");
         for (int minute = 58; minute <= 62; minute++) {
             TideFares x = new TideFares();
             x.ferry(0, 1, minute, 199, 1, 7);
-            x.set(1, 1);
             Edge.due("leaves at " + minute, WaysTest.listed(x, ""), x.digest());
-            x.clock(0, 120 - minute > 59 ? 60 - minute : 120 - minute);
+            dearAt(x, minute);
             Edge.due("dear at " + minute, WaysTest.listed(x, ""), x.digest());
         }
         Document.says("Promise 27", "for the islands 1 to 7 soonest from 0 at 30, cheapest from 0 at 30 by 400, "
@@ -554,10 +559,13 @@ final class WayEdges {
             for (int beside = -1; beside <= 1; beside++) {
                 TideFares x = new TideFares();
                 x.ferry(0, island, 30 + beside, 199, 1, 7);
-                Edge.due("leaves " + island + " at " + (30 + beside), WaysTest.listed(x, ""), x.digest());
+                Edge.due("leaves to " + island + " at " + (30 + beside), WaysTest.listed(x, ""), x.digest());
+                dearAt(x, 229 + beside);
+                Edge.due("leaves to " + island + " for less at " + (30 + beside), WaysTest.listed(x, ""), x.digest());
                 TideFares y = new TideFares();
-                y.ferry(0, island, 101 + beside, 199, 99, 7);
-                Edge.due("comes to " + island + " at " + (399 + beside), WaysTest.listed(y, ""), y.digest());
+                y.ferry(0, island, 102 + beside, 199, 99, 7);
+                dearAt(y, 102 + beside);
+                Edge.due("comes to " + island + " for less at " + (400 + beside), WaysTest.listed(y, ""), y.digest());
                 TideFares z = new TideFares();
                 z.ferry(0, island, 103 + beside, 199, 99, 7);
                 Edge.due("comes to " + island + " at " + (600 + beside), WaysTest.listed(z, ""), z.digest());

@@ -274,13 +274,11 @@ public final class WaysTest {
     }
 
     private static void digest() {
-        TideFares x = new TideFares();
-        Checks.due("digest of a new object", listed(x, ""), x.digest());
-        for (int ferry = 0; ferry < 14; ferry++) {
-            int to = (ferry * 3 + 1) % 8;
-            x.ferry(ferry % 8, to == ferry % 8 ? 7 - to : to, ferry * 7, 13 + ferry, 10 + ferry, ferry * 2);
-            Checks.due("digest with " + (ferry + 1) + " ferries", listed(x, ""), x.digest());
+        for (int ferries = 0; ferries <= 14; ferries++) {
+            TideFares some = unlike(ferries);
+            Checks.due("digest with " + ferries + " ferries", listed(some, ""), some.digest());
         }
+        TideFares x = unlike(14);
         x.set(0, 100);
         x.set(1, 20);
         x.kind(3, 1);
@@ -289,6 +287,16 @@ public final class WaysTest {
         x.take(0, 0);
         Checks.due("digest behind many calls", listed(x, ""), x.digest());
         Checks.due("digest changes nothing", x.digest(), x.digest());
+    }
+
+    /** So many ferries, each unlike the others. */
+    private static TideFares unlike(int ferries) {
+        TideFares x = new TideFares();
+        for (int ferry = 0; ferry < ferries; ferry++) {
+            int to = (ferry * 3 + 1) % 8;
+            x.ferry(ferry % 8, to == ferry % 8 ? 7 - to : to, ferry * 7, 13 + ferry, 10 + ferry, ferry * 2);
+        }
+        return x;
     }
 
     private static void digestOfBuffer() {
