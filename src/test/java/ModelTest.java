@@ -3,6 +3,8 @@ public final class ModelTest {
     private static final int RUNS = 100;
     private static final int WAYS_RUNS = 60;
     private static final int CALLS = 512;
+    // The model tries every minute for the last starts of a digest, so not each run has one.
+    private static final int RUNS_BY_DIGEST = 4;
 
     private static long seed;
     private static TideFares made;
@@ -237,18 +239,26 @@ public final class ModelTest {
         }
     }
 
+    private static void digest(int run) {
+        if (run % RUNS_BY_DIGEST == 0) {
+            same(run, "digest()", () -> made.digest(), () -> model.digest());
+        }
+    }
+
     public static void main(String[] args) {
         for (int run = 0; run < WAYS_RUNS; run++) {
             seed = run * 104729L + 5;
             made = new TideFares();
             model = new PlainModel();
             waysRun(run);
+            // Runs on end have unlike styles, so four on end have a digest.
+            digest(run / 4);
         }
         for (int run = 0; run < RUNS; run++) {
             seed = run * 7919L + 17;
             made = new TideFares();
             model = new PlainModel();
-            // Each step makes at most 29 calls on the object; the document promises 512 of them.
+            // Each step makes at most 29 calls on the object, and the digest is one more; the document promises 512.
             for (int before = calls; calls - before < CALLS - 29;) {
                 switch (pick(0, 5)) {
                     case 0:
@@ -264,6 +274,7 @@ public final class ModelTest {
                         changes(run);
                 }
             }
+            digest(run);
         }
         System.out.println("ModelTest: " + calls + " calls, " + wrong + " wrong");
         if (wrong != 0) {

@@ -301,11 +301,48 @@ final class PlainModel {
         return pairs / 56.0;
     }
 
+    long digest() {
+        List<Long> values = new ArrayList<>();
+        for (int what = 0; what <= 4; what++) {
+            values.add((long) count(what));
+        }
+        values.add((long) setting(0));
+        values.add((long) setting(1));
+        for (int ferry = 0; ferry < now.ferries.size(); ferry++) {
+            for (int what = 0; what <= 8; what++) {
+                values.add((long) ferryOf(ferry, what));
+            }
+            values.add((long) leaves(ferry, 60));
+            values.add((long) costs(ferry, 60));
+        }
+        for (int traveller = 0; traveller < 4; traveller++) {
+            for (int what = 0; what <= 4; what++) {
+                values.add((long) traveller(traveller, what));
+            }
+            values.add((long) reach(traveller));
+        }
+        for (int island = 1; island <= 7; island++) {
+            values.add((long) soonest(0, island, 30));
+            values.add((long) cheapest(0, island, 30, 400));
+            values.add((long) lastStart(0, island, 600));
+        }
+        values.add(Double.doubleToLongBits(joined()));
+        values.add((long) buffer.length());
+        for (char code : buffer.toCharArray()) {
+            values.add((long) code);
+        }
+        long hash = 3301;
+        for (long value : values) {
+            hash = 31 * hash + value;
+        }
+        return hash;
+    }
+
     private static final long FAR = 1L << 40;
 
     /** By minute and island: the fewest coins with which one is there at this minute; FAR if one cannot be. */
     private long[][] fewest(int from, int minute, int limit) {
-        long[][] coins = new long[1540 + 100][8];
+        long[][] coins = new long[limit + 100][8];
         for (long[] row : coins) {
             java.util.Arrays.fill(row, FAR);
         }
